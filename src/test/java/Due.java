@@ -21,6 +21,25 @@ final class Due {
         same(call, got ? 1 : 0, want ? 1 : 0);
     }
 
+    /** Texts of many lines: prints the first line that differs. */
+    static void sameText(String what, String got, String want) {
+        if (got.equals(want)) {
+            return;
+        }
+        String[] gotLines = got.split("\n");
+        String[] wantLines = want.split("\n");
+        int line = 0;
+        while (line < gotLines.length && line < wantLines.length && gotLines[line].equals(wantLines[line])) {
+            line++;
+        }
+        wrong++;
+        System.out.println(part + ": " + what + ": '" + lineOf(gotLines, line) + "', due is '" + lineOf(wantLines, line) + "'");
+    }
+
+    private static String lineOf(String[] lines, int line) {
+        return line < lines.length ? lines[line] : "";
+    }
+
     static boolean anyWrong() {
         return wrong != 0;
     }
