@@ -4,8 +4,11 @@ import java.util.function.Consumer;
 public final class RefusedCallsTest implements Words {
     private static final Consumer<Sheet> NEW = x -> { };
 
-    // Numbers, formulas over others, a table, and tokens and inputs begun.
+    // Numbers, formulas over others, a table that is smaller than the one before it, and tokens and inputs begun.
     private static final Consumer<Sheet> BEGUN = x -> {
+        x.inputs(true, 61, 62, 63, 64);
+        x.inputs(false, 71, 72, 73, 74);
+        x.table(0, 0, 2, 16);
         x.number(0, 4, 1);
         x.number(2, -3, 1);
         x.number(14, 9, 1);
@@ -126,9 +129,15 @@ public final class RefusedCallsTest implements Words {
 
     private static void fullTokensChangeNothing() {
         Due.part("promise 2: 'FULL; nothing changes then'");
+        // With room in the input lists, unlike FILLED.
+        Consumer<Sheet> fullTokens = BEGUN.andThen(x -> {
+            x.clearTokens();
+            x.type(CELL, 0, CELL, 2, CELL, 14, CELL, 5, NUMBER, 3, PICK, 0, MUL, 0, SUB, 0);
+        });
         for (int kind = 0; kind <= 7; kind++) {
             int k = kind;
             changesNothing("token(" + k + ", 3)", FILLED, x -> x.token(k, 3, FULL));
+            changesNothing("token(" + k + ", 3) with room for inputs", fullTokens, x -> x.token(k, 3, FULL));
         }
         changesNothing("two tokens", FILLED, x -> {
             x.token(NUMBER, LEAST, FULL);

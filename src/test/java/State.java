@@ -77,16 +77,33 @@ final class State implements Words {
     /** How many inputs both lists have, and which: a table of an input's own cell has the inputs as its entries. */
     static String inputs(Consumer<Sheet> past) {
         StringBuilder text = new StringBuilder();
-        for (int out = 0; out < 2; out++) {
-            WhatIfTables x = after(past);
-            for (int k = 0; k < 5; k++) {
-                text.append("one row input more answers ").append(x.input(true, 500 + k)).append('\n');
-                text.append("one column input more answers ").append(x.input(false, 600 + k)).append('\n');
-            }
-            text.append("table of the inputs answers ").append(x.table(out, 0, 1)).append('\n');
-            text.append(entries("table of the inputs", x));
+        text.append(oneInputMore(past, true)).append(oneInputMore(past, false));
+        text.append(tableOfInputs(past, 0)).append(tableOfInputs(past, 1));
+        return text.toString();
+    }
+
+    private static String oneInputMore(Consumer<Sheet> past, boolean row) {
+        StringBuilder text = new StringBuilder();
+        WhatIfTables x = after(past);
+        for (int k = 0; k < 5; k++) {
+            text.append("input(").append(row).append(", 7) answers ").append(x.input(row, 7)).append('\n');
         }
         return text.toString();
+    }
+
+    // An input more only where the list is empty: a call that is refused here could hide what one before it did.
+    private static String tableOfInputs(Consumer<Sheet> past, int out) {
+        boolean noRows = after(past).input(true, 500) == 1;
+        boolean noColumns = after(past).input(false, 600) == 1;
+        WhatIfTables x = after(past);
+        if (noRows) {
+            x.input(true, 500);
+        }
+        if (noColumns) {
+            x.input(false, 600);
+        }
+        String call = "table(" + out + ", 0, 1) of the inputs";
+        return call + " answers " + x.table(out, 0, 1) + "\n" + entries(call, x);
     }
 
     static String table(Consumer<Sheet> past) {
