@@ -147,9 +147,10 @@ public final class RefusedCallsTest implements Words {
 
     private static void badCellOfAFormulaChangesNothing() {
         Due.part("promise 4: 'A refused call changes nothing, but forgets the typed tokens unless it is BAD_CELL'");
+        Consumer<Sheet> soundTokens = BEGUN.andThen(x -> x.token(SUB, 0, 3));
         for (int cell : NO_CELLS) {
             changesNothing("formula(" + cell + ")", x -> x.formula(cell, BAD_CELL));
-            changesNothing("formula(" + cell + ") with a sound formula", BEGUN.andThen(x -> x.token(SUB, 0, 3)), x -> x.formula(cell, BAD_CELL));
+            changesNothing("formula(" + cell + ") with sound tokens", soundTokens, x -> x.formula(cell, BAD_CELL));
         }
     }
 
