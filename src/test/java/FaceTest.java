@@ -74,6 +74,9 @@ public final class FaceTest {
             if (!Modifier.isPrivate(field.getModifiers())) {
                 open++;
                 Due.same(field + " is in the document", due.contains(field.getName()), true);
+                Due.same(field + " is an int", type == int.class, true);
+                Due.same(field + " is public, static and final", field.getModifiers(),
+                    Modifier.PUBLIC | Modifier.STATIC | Modifier.FINAL);
             }
         }
         Due.same("fields that are not private", open, due.size());
